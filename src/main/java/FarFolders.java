@@ -102,6 +102,9 @@ public final class FarFolders {
     }
 
     public int makes(int copy, int folder, int parent, int name) {
+        if (!isCopy(copy)) {
+            return NONE;
+        }
         int time = world.make(copy, folder, parent, name);
         if (time >= 0) {
             Copy maker = world.copies[copy];

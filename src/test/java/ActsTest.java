@@ -302,6 +302,12 @@ public final class ActsTest {
         // LOG of 1 was a (1, 0), c (1, 1), b (2, 0), e (3, 1); a (1, 2) and d (3, 0) come
         Check.due("from both ways", y.gathers(1), 2);
         Check.row("by the least of all that come", y, 2, Check.bits(2, 5));
+        for (int copy = 0; copy < 3; copy++) {
+            FarFolders z = new FarFolders();
+            Check.doAll(z, "m0a/0m1b/0m2c/0");
+            Check.due("two of one TIME", z.gathers(copy), 2);
+            Check.row("ahead of what the greater COPY made", z, copy == 0 ? 0 : 1, Check.bits(2, 3, 4) & ~(4 << copy));
+        }
     }
 
     private static void gatheringTooMuch() {
@@ -477,6 +483,16 @@ public final class ActsTest {
         Check.due("it goes on from there", x.makes(1, 5, 4, 0), 2);
         x.again(0);
         Check.due("and once more", x.makes(1, 5, 4, 0), 2);
+        FarFolders y = new FarFolders();
+        y.keep(1);
+        Check.doAll(y, "m0a/0g1g2b1b2g0x0");
+        y.keep(0);
+        y.again(1);
+        Check.doAll(y, "m1b/0c10");
+        Check.due("what was cut since is gone", y.count(3), Check.bits(3));
+        y.again(0);
+        Check.doAll(y, "m1ba0c10");
+        Check.due("what had been cut is there", y.count(3), Check.bits(2, 3));
     }
 
     private static void counting() {
