@@ -155,7 +155,7 @@ public final class FarFolders {
         }
         int done = 0;
         int refused = 0;
-        for (int p = 0; p < text.size && refused == 0; p += signsOfAct(text.at(p))) {
+        for (int p = 0; p < text.size && refused == 0; p = behindAct(p)) {
             if (doAct(p) < 0) {
                 refused = 1;
             } else {
@@ -498,7 +498,7 @@ public final class FarFolders {
     }
 
     private int wrongSignOfDay() {
-        for (int p = 0; p < text.size; p += signsOfAct(text.at(p))) {
+        for (int p = 0; p < text.size; p = behindAct(p)) {
             int signs = signsOfAct(text.at(p));
             if (signs == 0) {
                 return p;
@@ -510,6 +510,11 @@ public final class FarFolders {
             }
         }
         return NONE;
+    }
+
+    /** Where the ACT that begins at p has ended: always behind p, so that a loop over ACTS ends. */
+    private int behindAct(int p) {
+        return p + Math.max(signsOfAct(text.at(p)), 1);
     }
 
     /** How many signs an ACT has that begins with a sign; 0 if none does. */

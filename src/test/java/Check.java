@@ -1,9 +1,22 @@
 import java.util.NoSuchElementException;
+import java.util.function.Supplier;
+import java.util.function.ToIntFunction;
 
-/** What the tests share: an answer against the one that is due, texts, rows, exceptions. */
+/** What the tests share: an answer against the one that is due, rows, exceptions, wrong arguments. */
 final class Check {
+    static final int NONE = FarFolders.NONE;
+    static final int LEAST = Integer.MIN_VALUE;
+    static final int GREATEST = Integer.MAX_VALUE;
+    /** What is no COPY, no NODE, no FOLDER, no NAME: the nearest ones, those that four bits would hold, the farthest. */
+    static final int[] NO_COPY = {-1, 3, 4, LEAST, GREATEST};
+    static final int[] NO_NODE = {-1, 14, 15, 16, 17, 18, LEAST, GREATEST};
+    static final int[] NO_FOLDER = {0, 1, -1, 14, 15, 16, 18, LEAST, GREATEST};
+    static final int[] NO_NAME = {-1, 10, 15, 16, LEAST, GREATEST};
+
     private static int right = 0;
     private static int wrong = 0;
+    /** What a wrong answer is told with. */
+    private static String about = "";
 
     private Check() {
     }
@@ -12,12 +25,19 @@ final class Check {
         long answer();
     }
 
+    static void about(String text) {
+        about = text;
+    }
+
+    static int checks() {
+        return right + wrong;
+    }
+
     static void due(String what, long got, long want) {
         if (got == want) {
             right++;
         } else {
-            wrong++;
-            System.out.println(what + " answered " + got + ", due is " + want);
+            fail(what + " answered " + got + ", due is " + want);
         }
     }
 
@@ -25,12 +45,32 @@ final class Check {
         due(what, got ? 1 : 0, want ? 1 : 0);
     }
 
+    static void due(String what, String got, String want) {
+        if (got.equals(want)) {
+            right++;
+        } else {
+            fail(what + ":\n" + got + "\ndue is:\n" + want);
+        }
+    }
+
+    static void fail(String what) {
+        wrong++;
+        System.out.println(about + what);
+    }
+
     /** The ROW, whole. */
-    static void row(String what, FarFolders x, long... want) {
-        due(what + ": numbers of the ROW", x.count(7), want.length);
-        for (int i = 0; i < want.length && i < x.count(7); i++) {
+    static void row(String what, Far x, long... want) {
+        int numbers = x.count(7);
+        due(what + ": numbers of the ROW", numbers, want.length);
+        for (int i = 0; i < want.length && i < numbers; i++) {
             due(what + ": row(" + i + ")", x.row(i), want[i]);
         }
+    }
+
+    /** An answer, and the ROW that is told with it. */
+    static void told(String what, Far x, long got, long want, long... row) {
+        due(what, got, want);
+        row(what, x, row);
     }
 
     static void noSuch(String what, Call call) {
@@ -43,35 +83,11 @@ final class Check {
         due(what + " throws NoSuchElementException", thrown, true);
     }
 
-    /** THE TEXT becomes a text. */
-    static void say(FarFolders x, String text) {
-        x.end(0);
-        for (int p = 0; p < text.length(); p += 4) {
-            int v = 0;
-            for (int k = 0; k < 4; k++) {
-                v = v << 8 | (p + k < text.length() ? text.charAt(p + k) & 255 : 0);
-            }
-            x.sign(v);
-        }
-        due("the text " + text + " is taken", x.end(text.length()), true);
-    }
-
-    static int day(FarFolders x, String text) {
-        say(x, text);
-        return x.day();
-    }
-
-    static int finds(FarFolders x, int copy, String path) {
-        say(x, path);
-        return x.finds(copy);
-    }
-
-    /** Does a DAY of which nothing may be refused. */
-    static void doAll(FarFolders x, String... days) {
-        for (String text : days) {
-            day(x, text);
-            due("the day " + text + " is done whole", x.row(0), 0);
-        }
+    /** A call answers what is due, and all that can be seen is as it is without the call, the ROW as well. */
+    static void changesNothing(String what, Supplier<Far> made, ToIntFunction<Far> call, int want) {
+        Far x = made.get();
+        due(what, call.applyAsInt(x), want);
+        due(what + " changes nothing", x.state(), made.get().state());
     }
 
     /** The bits of some numbers. */

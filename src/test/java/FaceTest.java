@@ -9,13 +9,15 @@ import java.util.TreeSet;
 /** The public face of the document, no more and no less, and rule 1 of LANGUAGE.md. */
 public final class FaceTest {
     private static final String[] FACE = {
-        "int sign(int)", "boolean end(int)", "int entry(int, int, int)", "int move(int, int, int)",
+        "int sign(int)", "boolean end(int)", "int entry(int, int, int) throws NoSuchElementException",
+        "int move(int, int, int) throws NoSuchElementException",
         "int makes(int, int, int, int)", "int beats(int)", "int comes(int, int)", "int gathers(int)", "int cuts(int)",
         "int day()", "int letters(int, int)", "int stable(int)", "int voids(int)", "int below(int, int)",
         "int depth(int, int)", "int meets(int, int, int)", "int places(int, int)", "int total(int, int, int)",
         "int lists(int, int, int)", "int finds(int)", "int path(int, int)", "int apart(int, int)", "int late(int, int)",
         "int then(int)", "int worst(int)", "int frees(int, int)", "int idle(int)", "int nearest(int, int)",
-        "int years(int, int)", "boolean keep(int)", "boolean again(int)", "int count(int)", "long row(int)"};
+        "int years(int, int)", "boolean keep(int)", "boolean again(int)", "int count(int)",
+        "long row(int) throws NoSuchElementException"};
 
     private FaceTest() {
     }
@@ -23,6 +25,7 @@ public final class FaceTest {
     public static void main(String[] args) {
         Class<?> face = FarFolders.class;
         Check.due("public and final", Modifier.isPublic(face.getModifiers()) && Modifier.isFinal(face.getModifiers()), true);
+        constants(face);
         Set<String> seen = new TreeSet<>();
         Set<String> names = new TreeSet<>();
         for (Method method : face.getDeclaredMethods()) {
@@ -37,10 +40,6 @@ public final class FaceTest {
         Constructor<?>[] made = face.getDeclaredConstructors();
         Check.due("one constructor", made.length, 1);
         Check.due("a public one", Modifier.isPublic(made[0].getModifiers()) && made[0].getParameterCount() == 0, true);
-        for (Field field : face.getDeclaredFields()) {
-            boolean isNone = field.getName().equals("NONE");
-            Check.due("field " + field.getName(), Modifier.isPrivate(field.getModifiers()), !isNone);
-        }
         noOtherBearsItsName(face, names);
         for (Class<?> inside : face.getDeclaredClasses()) {
             Check.due(inside + " is static", Modifier.isStatic(inside.getModifiers()), true);
@@ -52,9 +51,28 @@ public final class FaceTest {
         Check.close("FaceTest");
     }
 
+    private static void constants(Class<?> face) {
+        for (Field field : face.getDeclaredFields()) {
+            boolean isNone = field.getName().equals("NONE");
+            Check.due("field " + field.getName() + " is private", Modifier.isPrivate(field.getModifiers()), !isNone);
+            if (isNone) {
+                int due = Modifier.PUBLIC | Modifier.STATIC | Modifier.FINAL;
+                Check.due("public static final", field.getModifiers(), due);
+                Check.due("an int", field.getType() == int.class, true);
+            }
+        }
+        Check.due("NONE", FarFolders.NONE, -1);
+    }
+
     private static String tell(Method method) {
         String parameters = Arrays.toString(method.getParameterTypes());
-        return method.getReturnType() + " " + method.getName() + "(" + parameters.substring(1, parameters.length() - 1) + ")";
+        StringBuilder told = new StringBuilder();
+        told.append(method.getReturnType()).append(' ').append(method.getName()).append('(')
+            .append(parameters, 1, parameters.length() - 1).append(')');
+        for (Class<?> thrown : method.getExceptionTypes()) {
+            told.append(" throws ").append(thrown.getSimpleName());
+        }
+        return told.toString();
     }
 
     private static void noOtherBearsItsName(Class<?> owner, Set<String> names) {

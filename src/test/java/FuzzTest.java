@@ -3,14 +3,16 @@ import java.util.List;
 import java.util.NoSuchElementException;
 import java.util.Random;
 
-/** Runs of up to 512 drawn calls, good ones and wrong ones, on the class and on Model: the same answers. */
+/** Runs of 512 drawn calls, good ones and wrong ones, on the class and on Model: the same answers. */
 public final class FuzzTest {
-    private static final int CALLS = 512;
+    /** So many calls are left free at the end that any step has room. */
+    private static final int DEAREST_STEP = 100;
     private static final long THROWS = Long.MIN_VALUE;
 
     private final Random random;
-    private final FarFolders x = new FarFolders();
+    private final Far x = new Far();
     private final Model m = new Model();
+    private List<Long> lastRow = m.row;
     private final List<String> said = new ArrayList<>();
     /** How a run likes to deal: 0 even, 1 much is made, 2 little comes, 3 much is cut. */
     private final int mood;
@@ -21,20 +23,69 @@ public final class FuzzTest {
     }
 
     public static void main(String[] args) {
-        int runs = 400;
+        int runs = 2000;
+        long steps = 0;
         for (int run = 0; run < runs; run++) {
             FuzzTest test = new FuzzTest(run);
-            for (int i = 0; i < CALLS; i++) {
-                if (!test.step()) {
-                    System.out.println("run " + run + ", the last calls:");
-                    for (int k = Math.max(0, test.said.size() - 40); k < test.said.size(); k++) {
-                        System.out.println("  " + test.said.get(k));
-                    }
-                    System.exit(1);
+            if (!test.begins() || !test.goesOn()) {
+                System.out.println("run " + run + ":");
+                for (String call : test.said) {
+                    System.out.println("  " + call);
                 }
+                System.exit(1);
+            }
+            steps += test.said.size();
+        }
+        System.out.println("FuzzTest: " + runs + " runs, " + steps + " steps as the model's");
+    }
+
+    private boolean goesOn() {
+        while (x.calls() + DEAREST_STEP < Far.MOST_CALLS) {
+            if (!step()) {
+                return false;
             }
         }
-        System.out.println("FuzzTest: " + runs + " runs of " + CALLS + " calls as the model's");
+        return true;
+    }
+
+    /** Some days of many acts, which cost few calls, so that full LOGS and full ways are met. */
+    private boolean begins() {
+        int days = random.nextInt(5);
+        for (int day = 0; day < days; day++) {
+            StringBuilder s = new StringBuilder();
+            while (s.length() <= 75) {
+                s.append(act());
+            }
+            if (!said(s) || !same("day() of " + s, x.day(), m.day())) {
+                return false;
+            }
+        }
+        return true;
+    }
+
+    private String act() {
+        int c = random.nextInt(3);
+        int kind = random.nextInt(mood == 1 ? 8 : 10);
+        if (kind < 5) {
+            int p = parent();
+            return "m" + c + (char) ('a' + random.nextInt(mood == 1 ? 4 : 12))
+                + (p >= 0 && p < 14 ? Model.NODE_SIGNS.charAt(p) : '/') + random.nextInt(3);
+        }
+        return kind < 7 ? "g" + c : kind == 7 ? "b" + c : kind == 8 ? "x" + c : "c" + c + (c + 1 + random.nextInt(2)) % 3;
+    }
+
+    /** THE TEXT becomes a text. */
+    private boolean said(CharSequence s) {
+        for (int p = 0; p < s.length(); p += 4) {
+            int v = 0;
+            for (int k = 0; k < 4; k++) {
+                v = v << 8 | (p + k < s.length() ? s.charAt(p + k) : random.nextInt(256));
+            }
+            if (x.sign(v) != m.sign(v)) {
+                return same("sign(" + v + ")", x.count(8), m.count(8));
+            }
+        }
+        return x.end(s.length()) == m.end(s.length());
     }
 
     private interface Call {
@@ -55,13 +106,21 @@ public final class FuzzTest {
             said.add("due is " + want);
             return false;
         }
-        if (x.count(7) != m.count(7) || x.count(8) != m.count(8)) {
-            said.add("the row or the text has another length: " + x.count(7) + " " + x.count(8));
+        // each new ROW is looked at, one that stays now and then
+        boolean looks = m.row != lastRow || random.nextInt(12) == 0;
+        lastRow = m.row;
+        return !looks || sameRow();
+    }
+
+    private boolean sameRow() {
+        int numbers = x.count(7);
+        if (numbers != m.count(7) || x.count(8) != m.count(8)) {
+            said.add("the row or the text has another length");
             return false;
         }
-        for (int i = 0; i < x.count(7); i++) {
+        for (int i = 0; i < numbers; i++) {
             if (x.row(i) != m.row(i)) {
-                said.add("row(" + i + ") is " + x.row(i) + ", due is " + m.row(i));
+                said.add("row(" + i + ") is another one, due is " + m.row(i));
                 return false;
             }
         }
@@ -135,14 +194,8 @@ public final class FuzzTest {
             int to = random.nextInt(8) == 0 ? acts.length : path ? 29 : 19;
             s.append(acts[from + random.nextInt(to - from)]);
         }
-        for (int p = 0; p < s.length(); p += 4) {
-            int v = 0;
-            for (int k = 0; k < 4; k++) {
-                v = v << 8 | (p + k < s.length() ? s.charAt(p + k) : random.nextInt(256));
-            }
-            if (!same("sign(" + v + ")", x.sign(v), m.sign(v))) {
-                return false;
-            }
+        if (!said(s)) {
+            return false;
         }
         int n = random.nextInt(20) == 0 ? draw(90) : s.length();
         if (!same("end(" + n + ")", x.end(n) ? 1 : 0, m.end(n) ? 1 : 0)) {

@@ -1,6 +1,6 @@
 import java.lang.management.ManagementFactory;
 
-/** All calls of a run live in one room: the object is made once, and its calls make nothing. */
+/** All calls of a run live in one room: an object is made once, and its calls make nothing. */
 public final class RoomTest {
     private static final com.sun.management.ThreadMXBean BEAN =
         (com.sun.management.ThreadMXBean) ManagementFactory.getThreadMXBean();
@@ -9,16 +9,16 @@ public final class RoomTest {
     }
 
     public static void main(String[] args) {
-        run(new FarFolders(), 1);
-        long start = made();
-        FarFolders x = new FarFolders();
-        long object = made() - start;
-        Check.due("an object takes " + object + " bytes, far less than 64 KiB", object < 65536, true);
-        for (int round = 0; round < 20; round++) {
+        use(new Far(), 0);
+        for (int round = 0; round < 6; round++) {
+            long start = made();
+            Far x = new Far();
+            long object = made() - start;
+            Check.due("an object takes " + object + " bytes, far less than 64 KiB", object < 65536, true);
             start = made();
-            run(x, round);
+            use(x, round);
             long calls = made() - start;
-            Check.due("calls made " + calls + " bytes", calls < 4096, true);
+            Check.due(x.calls() + " calls made " + calls + " bytes", calls < 4096, true);
         }
         Check.close("RoomTest");
     }
@@ -27,16 +27,16 @@ public final class RoomTest {
         return BEAN.getThreadAllocatedBytes(Thread.currentThread().getId());
     }
 
-    private static void run(FarFolders x, int round) {
+    /** Each call, and each question of each NODE, of two COPIES that the round tells. */
+    private static void use(Far x, int round) {
+        int copy = round % 3;
+        int other = (copy + 1 + round / 3) % 3;
         for (int i = 0; i < 6; i++) {
-            for (int copy = 0; copy < 3; copy++) {
-                x.makes(copy, 2 + (i * 5 + copy * 3 + round) % 12, (i * 7 + copy + round) % 14, i % 2);
+            for (int c = 0; c < 3; c++) {
+                x.makes(c, 2 + (i * 5 + c * 3 + round) % 12, (i * 7 + c + round) % 14, i % 2);
             }
         }
-        for (int copy = 0; copy < 3; copy++) {
-            ask(x, copy, (copy + 1) % 3);
-            ask(x, copy, (copy + 2) % 3);
-        }
+        ask(x, copy, other);
         x.sign('g' << 24 | '0' << 16 | 'g' << 8 | '1');
         x.sign('g' << 24 | '2' << 16 | 'b' << 8 | '0');
         x.sign('b' << 24 | '1' << 16 | 'b' << 8 | '2');
@@ -51,7 +51,7 @@ public final class RoomTest {
         x.again(0);
     }
 
-    private static void ask(FarFolders x, int copy, int other) {
+    private static void ask(Far x, int copy, int other) {
         x.letters(copy, other);
         x.stable(copy);
         x.voids(copy);
