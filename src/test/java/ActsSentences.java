@@ -260,9 +260,7 @@ final class ActsSentences {
     @Of(promise = 7, says = "NONE: no such")
     static void beatingNone() {
         Far x = new Far();
-        for (int copy : Check.NO_COPY) {
-            Check.due("COPY " + copy, x.beats(copy), Check.NONE);
-        }
+        Check.noCopy(x::beats);
         Check.due("none was sent", x.count(6), 0);
     }
 
@@ -356,16 +354,7 @@ final class ActsSentences {
     @Of(promise = 8, says = "NONE: others")
     static void comingNone() {
         Far x = new Far("b0b1b2");
-        for (int copy : Check.NO_COPY) {
-            for (int other = 0; other < 3; other++) {
-                Check.due("from " + copy, x.comes(copy, other), Check.NONE);
-                Check.due("to " + copy, x.comes(other, copy), Check.NONE);
-            }
-            Check.due("from and to " + copy, x.comes(copy, copy), Check.NONE);
-        }
-        for (int copy = 0; copy < 3; copy++) {
-            Check.due("to itself", x.comes(copy, copy), Check.NONE);
-        }
+        Check.noTwoCopies(x::comes);
         Check.due("all wait", x.count(6), 6);
     }
 
@@ -470,9 +459,7 @@ final class ActsSentences {
     @Of(promise = 9, says = "NONE: no such")
     static void gatheringNone() {
         Far x = new Far("b0b1b2");
-        for (int copy : Check.NO_COPY) {
-            Check.due("COPY " + copy, x.gathers(copy), Check.NONE);
-        }
+        Check.noCopy(x::gathers);
         Check.due("all wait", x.count(6), 6);
     }
 
@@ -504,9 +491,7 @@ final class ActsSentences {
     @Of(promise = 10, says = "NONE: no such")
     static void cuttingNone() {
         Far x = new Far("m0a/0g1g2b1b2g0");
-        for (int copy : Check.NO_COPY) {
-            Check.due("COPY " + copy, x.cuts(copy), Check.NONE);
-        }
+        Check.noCopy(x::cuts);
         Check.due("none was cut", x.count(0) + x.count(1) + x.count(2), 3);
     }
 
@@ -534,16 +519,7 @@ final class ActsSentences {
 
     @Of(promise = 12, says = "NONE: others")
     static void lettersOfNone() {
-        Far x = new Far("b0b1b2");
-        for (int copy : Check.NO_COPY) {
-            for (int other = 0; other < 3; other++) {
-                Check.due("from " + copy, x.letters(copy, other), Check.NONE);
-                Check.due("to " + copy, x.letters(other, copy), Check.NONE);
-            }
-        }
-        for (int copy = 0; copy < 3; copy++) {
-            Check.due("to itself", x.letters(copy, copy), Check.NONE);
-        }
+        Check.noTwoCopies(new Far("b0b1b2")::letters);
     }
 
     @Of(promise = 13, says = "STABLE of a COPY: it")
@@ -577,9 +553,7 @@ final class ActsSentences {
 
     @Of(promise = 13, says = "NONE: no such")
     static void stableOfNone() {
-        for (int copy : Check.NO_COPY) {
-            Check.due("COPY " + copy, new Far().stable(copy), Check.NONE);
-        }
+        Check.noCopy(new Far("m0a/0")::stable);
     }
 
     @Of(promise = 14, says = "MOVES in the LOG of a COPY that are VOID (bits): they")
@@ -610,8 +584,6 @@ final class ActsSentences {
 
     @Of(promise = 14, says = "NONE: no such")
     static void voidsOfNone() {
-        for (int copy : Check.NO_COPY) {
-            Check.due("COPY " + copy, new Far("m0aa0").voids(copy), Check.NONE);
-        }
+        Check.noCopy(new Far("m0aa0")::voids);
     }
 }

@@ -1,4 +1,6 @@
 import java.util.NoSuchElementException;
+import java.util.function.IntBinaryOperator;
+import java.util.function.IntUnaryOperator;
 import java.util.function.Supplier;
 import java.util.function.ToIntFunction;
 
@@ -81,6 +83,39 @@ final class Check {
             thrown = true;
         }
         due(what + " throws NoSuchElementException", thrown, true);
+    }
+
+    /** A call of a COPY answers NONE for what is no COPY. */
+    static void noCopy(IntUnaryOperator call) {
+        for (int copy : NO_COPY) {
+            due("COPY " + copy, call.applyAsInt(copy), NONE);
+        }
+    }
+
+    /** A call of two COPIES answers NONE if one of them is no COPY, or if they are one. */
+    static void noTwoCopies(IntBinaryOperator call) {
+        for (int copy : NO_COPY) {
+            for (int other = 0; other < 3; other++) {
+                due("first " + copy, call.applyAsInt(copy, other), NONE);
+                due("second " + copy, call.applyAsInt(other, copy), NONE);
+            }
+            due("both " + copy, call.applyAsInt(copy, copy), NONE);
+        }
+        for (int copy = 0; copy < 3; copy++) {
+            due("both " + copy, call.applyAsInt(copy, copy), NONE);
+        }
+    }
+
+    /** A call of a COPY and a NODE answers NONE for what is no COPY or no NODE; at COPY 1 all else is fine. */
+    static void noNode(String what, IntBinaryOperator call) {
+        for (int copy : NO_COPY) {
+            for (int node : new int[] {0, 1, 2, 13}) {
+                due(what + ": COPY " + copy + ", NODE " + node, call.applyAsInt(copy, node), NONE);
+            }
+        }
+        for (int node : NO_NODE) {
+            due(what + ": NODE " + node, call.applyAsInt(1, node), NONE);
+        }
     }
 
     /** A call answers what is due, and all that can be seen is as it is without the call, the ROW as well. */

@@ -42,16 +42,8 @@ final class ForesightSentences {
 
     @Of(promise = 24, says = "NONE: others.")
     static void lateOfNone() {
-        Far x = new Far("b0b1b2");
-        for (int copy : Check.NO_COPY) {
-            for (int other = 0; other < 3; other++) {
-                Check.due("from " + copy, x.late(copy, other), Check.NONE);
-                Check.due("to " + copy, x.late(other, copy), Check.NONE);
-            }
-        }
-        for (int copy = 0; copy < 3; copy++) {
-            Check.due("to itself", x.late(copy, copy), Check.NONE);
-        }
+        Check.noTwoCopies(new Far("b0b1b2")::late);
+        Check.noTwoCopies(new Far()::late);
     }
 
     @Of(promise = 24, says = "(A full LOG is all the same.)")
@@ -135,9 +127,7 @@ final class ForesightSentences {
 
     @Of(promise = 25, says = "NONE: no such.")
     static void thenOfNone() {
-        for (int copy : Check.NO_COPY) {
-            Check.due("COPY " + copy, new Far("b0b1b2").then(copy), Check.NONE);
-        }
+        Check.noCopy(new Far("b0b1b2")::then);
     }
 
     @Of(promise = 26, says = "LETTERS that wait for a COPY come one by one, from either way as one likes: "
@@ -205,10 +195,8 @@ final class ForesightSentences {
 
     @Of(promise = 26, says = "NONE: no such.")
     static void worstOfNone() {
-        Far x = new Far("b0b1b2");
-        for (int copy : Check.NO_COPY) {
-            Check.due("COPY " + copy, x.worst(copy), Check.NONE);
-        }
+        Check.noCopy(new Far("b0b1b2")::worst);
+        Check.noCopy(new Far()::worst);
     }
 
     @Of(promise = 27, says = "MOVES of the LOG of a COPY each of which, were it alone not there, "
@@ -262,9 +250,7 @@ final class ForesightSentences {
             Check.due("MOVE " + i + " of none", x.frees(1, i), Check.NONE);
         }
         Check.due("MOVE 0 of none", x.frees(1, 0), Check.NONE);
-        for (int copy : Check.NO_COPY) {
-            Check.due("COPY " + copy, x.frees(copy, 0), Check.NONE);
-        }
+        Check.noCopy(copy -> x.frees(copy, 0));
         Check.due("MOVE 20 of 20", States.logsOf(20).frees(0, 20), Check.NONE);
     }
 
@@ -301,9 +287,7 @@ final class ForesightSentences {
 
     @Of(promise = 28, says = "NONE: no such.")
     static void idleOfNone() {
-        for (int copy : Check.NO_COPY) {
-            Check.due("COPY " + copy, new Far("m0aa0").idle(copy), Check.NONE);
-        }
+        Check.noCopy(new Far("m0aa0")::idle);
     }
 
     @Of(promise = 29, says = "The fewest COPIES' LETTERS: how many LETTERS at least have to come, all together, "
@@ -416,16 +400,7 @@ final class ForesightSentences {
 
     @Of(promise = 29, says = "NONE: others.")
     static void nearestOfNone() {
-        Far x = new Far("m0a/0");
-        for (int copy : Check.NO_COPY) {
-            for (int other = 0; other < 3; other++) {
-                Check.due("from " + copy, x.nearest(copy, other), Check.NONE);
-                Check.due("to " + copy, x.nearest(other, copy), Check.NONE);
-            }
-        }
-        for (int copy = 0; copy < 3; copy++) {
-            Check.due("one and the same", x.nearest(copy, copy), Check.NONE);
-        }
+        Check.noTwoCopies(new Far("m0a/0")::nearest);
     }
 
     @Of(promise = 30, says = "n times (1 .. 40; it is not kept)")

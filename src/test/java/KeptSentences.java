@@ -31,6 +31,16 @@ final class KeptSentences {
             z.voids(0);
         }
         Check.due("it goes on from there", x.state(), y.state());
+        Far cut = new Far();
+        cut.keep(1);
+        cut.doAll("m0a/0g1g2b1b2g0x0");
+        cut.keep(0);
+        cut.again(1);
+        cut.doAll("m1b/0c10");
+        Check.due("what was cut since is gone", cut.count(3), Check.bits(3));
+        cut.again(0);
+        cut.doAll("m1ba0c10");
+        Check.due("what had been cut is there", cut.count(3), Check.bits(2, 3));
     }
 
     @Of(promise = 31, says = "Refused: others.")
@@ -164,8 +174,9 @@ final class KeptSentences {
         Check.due("at first", x.count(9), 0);
         for (int copy = 0; copy < 3; copy++) {
             x.makes(copy, 2, 0, 0);
+            Check.due("of COPY " + copy + " alone", x.count(9), copy + 1);
             x.gathers((copy + 1) % 3);
-            Check.due("of COPY " + copy, x.count(9), copy + 1);
+            Check.due("of two", x.count(9), copy + 1);
         }
         x.beats(0);
         Check.due("a BEAT takes none", x.count(9), 3);

@@ -404,13 +404,6 @@ final class TextSentences {
 
     @Of(promise = 22, says = "NONE: others.")
     static void noPath() {
-        Far x = withFolders();
-        for (int copy : Check.NO_COPY) {
-            Check.due("no COPY", x.path(copy, 0), Check.NONE);
-            Check.due("no COPY, not there", x.path(copy, 13), Check.NONE);
-        }
-        for (int node : Check.NO_NODE) {
-            Check.due("no NODE", x.path(0, node), Check.NONE);
-        }
+        Check.noNode("path", withFolders()::path);
     }
 }

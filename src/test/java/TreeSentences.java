@@ -30,16 +30,6 @@ final class TreeSentences {
         Check.due(what + ": by a VOID one", call.applyAsInt(2, C), -2);
     }
 
-    private static void none(String what, IntBinaryOperator call) {
-        for (int copy : Check.NO_COPY) {
-            Check.due(what + ": COPY " + copy, call.applyAsInt(copy, 0), Check.NONE);
-            Check.due(what + ": COPY " + copy + ", not there", call.applyAsInt(copy, 9), Check.NONE);
-        }
-        for (int node : Check.NO_NODE) {
-            Check.due(what + ": NODE " + node, call.applyAsInt(1, node), Check.NONE);
-        }
-    }
-
     @Of(promise = 15, says = "FOLDERS that lie right below a NODE at a COPY: they")
     static void rightBelow() {
         Far x = grown();
@@ -78,7 +68,7 @@ final class TreeSentences {
 
     @Of(promise = 15, says = "NONE: others")
     static void belowNone() {
-        none("below", grown()::below);
+        Check.noNode("below", grown()::below);
     }
 
     @Of(promise = 16, says = "How many steps lead up from a NODE to THE ROOT, or THE TRASH: how many (0 of these)")
@@ -115,7 +105,7 @@ final class TreeSentences {
 
     @Of(promise = 16, says = "NONE: others")
     static void depthOfNone() {
-        none("depth", grown()::depth);
+        Check.noNode("depth", grown()::depth);
     }
 
     @Of(promise = 17, says = "The lowest NODE below which, or at which, two NODES lie both: it.")
@@ -158,9 +148,9 @@ final class TreeSentences {
     @Of(promise = 17, says = "NONE: others")
     static void meetingNone() {
         Far x = grown();
-        none("the first", (copy, node) -> x.meets(copy, node, 0));
-        none("the second", (copy, node) -> x.meets(copy, 0, node));
-        none("not there", (copy, node) -> x.meets(copy == 1 ? 2 : copy, node, 9));
+        Check.noNode("the first", (copy, node) -> x.meets(copy, node, 0));
+        Check.noNode("the second", (copy, node) -> x.meets(copy, 0, node));
+        Check.noNode("not there", (copy, node) -> x.meets(copy == 1 ? 2 : copy, node, 9));
     }
 
     @Of(promise = 18, says = "NODES to which a FOLDER could be moved now, so that it would not be VOID: they.")
@@ -187,9 +177,7 @@ final class TreeSentences {
     @Of(promise = 18, says = "NONE: others")
     static void placesOfNone() {
         Far x = grown();
-        for (int copy : Check.NO_COPY) {
-            Check.due("COPY " + copy, x.places(copy, A), Check.NONE);
-        }
+        Check.noCopy(copy -> x.places(copy, A));
         for (int folder : Check.NO_FOLDER) {
             Check.due("FOLDER " + folder, x.places(1, folder), Check.NONE);
         }
@@ -284,7 +272,7 @@ final class TreeSentences {
         for (int what = 0; what < 6; what++) {
             int k = what;
             Far x = grown();
-            none("total " + k, (copy, node) -> x.total(copy, node, k));
+            Check.noNode("total " + k, (copy, node) -> x.total(copy, node, k));
         }
         Far x = grown();
         for (int what : new int[] {-1, 6, 7, Check.LEAST, Check.GREATEST}) {
@@ -363,7 +351,7 @@ final class TreeSentences {
         for (int how = 0; how < 4; how++) {
             int k = how;
             Far x = grown();
-            none("lists " + k, (copy, node) -> x.lists(copy, node, k));
+            Check.noNode("lists " + k, (copy, node) -> x.lists(copy, node, k));
         }
         Far x = grown();
         for (int how : new int[] {-1, 4, 5, Check.LEAST, Check.GREATEST}) {
@@ -390,15 +378,6 @@ final class TreeSentences {
 
     @Of(promise = 23, says = "NONE: others.")
     static void apartOfNone() {
-        Far x = grown();
-        for (int copy : Check.NO_COPY) {
-            for (int other = 0; other < 3; other++) {
-                Check.due("from " + copy, x.apart(copy, other), Check.NONE);
-                Check.due("to " + copy, x.apart(other, copy), Check.NONE);
-            }
-        }
-        for (int copy = 0; copy < 3; copy++) {
-            Check.due("one and the same", x.apart(copy, copy), Check.NONE);
-        }
+        Check.noTwoCopies(grown()::apart);
     }
 }
