@@ -59,11 +59,7 @@ public final class FarFolders {
     }
 
     public boolean end(int n) {
-        if (n < 0 || n > text.size) {
-            return false;
-        }
-        text.size = n;
-        return true;
+        return text.keepFirst(n);
     }
 
     public int entry(int copy, int folder, int what) throws NoSuchElementException {
@@ -150,19 +146,19 @@ public final class FarFolders {
     public int day() {
         int wrong = wrongSignOfDay();
         if (wrong >= 0) {
-            text.size = 0;
+            text.clear();
             return -1 - wrong;
         }
         int done = 0;
         int refused = 0;
-        for (int p = 0; p < text.size && refused == 0; p = behindAct(p)) {
+        for (int p = 0; p < text.size && refused == 0; p += Math.max(signsOfAct(text.at(p)), 1)) {
             if (doAct(p) < 0) {
                 refused = 1;
             } else {
                 done++;
             }
         }
-        text.size = 0;
+        text.clear();
         row.tell(refused);
         return done;
     }
@@ -172,7 +168,7 @@ public final class FarFolders {
             return NONE;
         }
         Series way = world.way(from, to);
-        row.size = 0;
+        row.clear();
         for (int i = 0; i < way.size; i++) {
             row.add(Letter.time(way.at(i)));
         }
@@ -273,7 +269,7 @@ public final class FarFolders {
         if (refusal < 0) {
             return refusal;
         }
-        row.size = 0;
+        row.clear();
         listBelow(world.copies[copy].tree, row, node, how, 0);
         return row.size;
     }
@@ -288,7 +284,7 @@ public final class FarFolders {
         } else {
             found = nodeAtPath(world.copies[copy].tree);
         }
-        text.size = 0;
+        text.clear();
         return found;
     }
 
@@ -299,7 +295,7 @@ public final class FarFolders {
         }
         Tree tree = world.copies[copy].tree;
         int steps = tree.stepsUp(node);
-        row.size = 0;
+        row.clear();
         if (tree.up(node, steps) == TRASH) {
             row.add('~');
         }
@@ -338,7 +334,7 @@ public final class FarFolders {
         trial.copyFrom(world);
         trial.takeAll(copy);
         Tree tree = trial.copies[copy].tree;
-        row.size = 0;
+        row.clear();
         for (int folder = FIRST_FOLDER; folder < NODES; folder++) {
             row.add(tree.isThere(folder) ? Letter.parent(tree.entries[folder]) : NONE);
         }
@@ -401,7 +397,7 @@ public final class FarFolders {
         if (key < 0) {
             return NEVER;
         }
-        row.size = 0;
+        row.clear();
         for (int place = 0; place < 4; place++) {
             row.add(Meeting.lettersOn(key, place));
         }
@@ -458,7 +454,7 @@ public final class FarFolders {
     }
 
     public long row(int i) throws NoSuchElementException {
-        if (i < 0 || i >= row.size) {
+        if (!row.has(i)) {
             throw new NoSuchElementException();
         }
         return row.numbers[i];
@@ -498,7 +494,7 @@ public final class FarFolders {
     }
 
     private int wrongSignOfDay() {
-        for (int p = 0; p < text.size; p = behindAct(p)) {
+        for (int p = 0; p < text.size; p += Math.max(signsOfAct(text.at(p)), 1)) {
             int signs = signsOfAct(text.at(p));
             if (signs == 0) {
                 return p;
@@ -510,11 +506,6 @@ public final class FarFolders {
             }
         }
         return NONE;
-    }
-
-    /** Where the ACT that begins at p has ended: always behind p, so that a loop over ACTS ends. */
-    private int behindAct(int p) {
-        return p + Math.max(signsOfAct(text.at(p)), 1);
     }
 
     /** How many signs an ACT has that begins with a sign; 0 if none does. */
@@ -732,6 +723,7 @@ public final class FarFolders {
     /** LETTERS of a way, or MOVES of a LOG, one behind another. */
     private static final class Series {
         private final long[] items;
+        /** Never more than items has room for: the methods here alone change it. */
         int size;
 
         Series(int room) {
@@ -745,6 +737,10 @@ public final class FarFolders {
         void copyFrom(Series other) {
             size = Math.min(other.size, items.length);
             System.arraycopy(other.items, 0, items, 0, size);
+        }
+
+        void clear() {
+            size = 0;
         }
 
         void append(long letter) {
@@ -773,7 +769,7 @@ public final class FarFolders {
         int countLater(long than, int n) {
             int later = 0;
             for (int i = 0; i < n && i < size; i++) {
-                if (items[i] > than && Letter.hasMove(items[i])) {
+                if (at(i) > than && Letter.hasMove(at(i))) {
                     later++;
                 }
             }
@@ -1214,7 +1210,7 @@ public final class FarFolders {
                 if (way.size > 0) {
                     taker.hear(from, way.at(way.size - 1));
                     taker.log.insertMovesOf(way, way.size);
-                    way.size = 0;
+                    way.clear();
                 }
             }
             taker.voidMoves = taker.tree.rebuild(taker.base, taker.log, NONE);
@@ -1244,8 +1240,9 @@ public final class FarFolders {
         final int[] least = new int[COME * COME];
         final int[] most = new int[COME * COME];
 
+        /** Always an index, as no way has more than six. */
         static int place(int i, int j) {
-            return i * COME + j;
+            return Math.min(i, WAY_MOST) * COME + Math.min(j, WAY_MOST);
         }
 
         void weighAll(Series log, Series one, Series other) {
@@ -1354,6 +1351,14 @@ public final class FarFolders {
         final long[] numbers = new long[ROW_ROOM];
         int size;
 
+        boolean has(int i) {
+            return i >= 0 && i < size && i < numbers.length;
+        }
+
+        void clear() {
+            size = 0;
+        }
+
         void add(long number) {
             if (size < numbers.length) {
                 numbers[size] = number;
@@ -1363,7 +1368,7 @@ public final class FarFolders {
 
         /** A new row that begins with a number. */
         void tell(long number) {
-            size = 0;
+            clear();
             add(number);
         }
     }
@@ -1371,6 +1376,18 @@ public final class FarFolders {
     private static final class Text {
         private final char[] signs = new char[TEXT_MOST];
         int size;
+
+        void clear() {
+            size = 0;
+        }
+
+        boolean keepFirst(int n) {
+            if (n < 0 || n > size) {
+                return false;
+            }
+            size = n;
+            return true;
+        }
 
         boolean addFour(int v) {
             if (size < 0 || size + 4 > signs.length) {
